@@ -148,7 +148,7 @@ public final class BoxIntegrals {
         if (!isBox(box) || !isNode(node) || !isEnd(end)) {
             return 0;
         }
-        encloseOver(box, formulas.restingOn(1 << node));
+        formulas.enclose(formulas.restingOn(1 << node), cover.lows, cover.highs, Cover.place(box, 0));
         return end == 0 ? formulas.lows[node] : formulas.highs[node];
     }
 
@@ -171,7 +171,7 @@ public final class BoxIntegrals {
         }
         int needed = formulas.restingOn(1 << node);
         formulas.evaluate(needed, point);
-        encloseOver(box, needed);
+        formulas.enclose(needed, cover.lows, cover.highs, Cover.place(box, 0));
         long found = formulas.values[node];
         boolean inside = !Numbers.below(found, formulas.lows[node])
                 && !Numbers.below(formulas.highs[node], found);
@@ -284,16 +284,12 @@ public final class BoxIntegrals {
         return formulas.restingOn(roots);
     }
 
-    private void encloseOver(int box, int nodes) {
-        formulas.enclose(nodes, cover.lows, cover.highs, Cover.place(box, 0));
-    }
-
-    /** Gives a box whose sides are new its kind, weight and tightness. */
+    /** Gives a box whose sides are new its kind, its weight and the place of its split. */
     private void settle(int box) {
-        encloseOver(box, roleNodes);
+        formulas.enclose(roleNodes, cover.lows, cover.highs, Cover.place(box, 0));
         cover.kinds[box] = judge();
         weigh(box);
-        cover.findTight(box);
+        cover.findSplit(box);
     }
 
     /** The kind of the box over which the nodes have just been enclosed. */
@@ -370,6 +366,9 @@ public final class BoxIntegrals {
         final long[] lowWeights = new long[MOST_BOXES];
         final long[] highWeights = new long[MOST_BOXES];
         final int[] kinds = new int[MOST_BOXES];
+        /** Of each box the side that a split would cut, where, and whether it is too narrow for that. */
+        final int[] cutSides = new int[MOST_BOXES];
+        final long[] cuts = new long[MOST_BOXES];
         final boolean[] tight = new boolean[MOST_BOXES];
         int sides = 0;
         int size = 0;
@@ -411,24 +410,20 @@ public final class BoxIntegrals {
             return Numbers.add(highs[place], Numbers.negate(lows[place]));
         }
 
-        int widestSide(int box) {
+        void findSplit(int box) {
             int widest = 0;
+            long most = width(box, 0);
             for (int draw = 1; draw < sides; draw++) {
-                if (Numbers.below(width(box, widest), width(box, draw))) {
+                long width = width(box, draw);
+                if (Numbers.below(most, width)) {
                     widest = draw;
+                    most = width;
                 }
             }
-            return widest;
-        }
-
-        long middle(int box, int draw) {
-            return Numbers.add(lows[place(box, draw)], Numbers.divide(width(box, draw), Numbers.TWO));
-        }
-
-        void findTight(int box) {
-            int draw = widestSide(box);
-            int place = place(box, draw);
-            long middle = middle(box, draw);
+            int place = place(box, widest);
+            long middle = Numbers.add(lows[place], Numbers.divide(most, Numbers.TWO));
+            cutSides[box] = widest;
+            cuts[box] = middle;
             tight[box] = !Numbers.below(lows[place], middle) || !Numbers.below(middle, highs[place]);
         }
 
@@ -451,10 +446,8 @@ public final class BoxIntegrals {
                 lows[place(other, draw)] = lows[place(box, draw)];
                 highs[place(other, draw)] = highs[place(box, draw)];
             }
-            int widest = widestSide(box);
-            long middle = middle(box, widest);
-            highs[place(box, widest)] = middle;
-            lows[place(other, widest)] = middle;
+            highs[place(box, cutSides[box])] = cuts[box];
+            lows[place(other, cutSides[box])] = cuts[box];
             size++;
             steps++;
             return other;
@@ -537,6 +530,11 @@ public final class BoxIntegrals {
 
         static boolean readsTwo(int kind) {
             return kind >= SUM && kind <= GREATEST;
+        }
+
+        /** Whether a node's ends are what the node makes of the ends of those that it reads. */
+        static boolean takesEndsAsTheyAre(int kind) {
+            return kind == LEAST || kind == GREATEST || kind == FLOOR || kind >= AS_FLOAT;
         }
 
         /** Adds a node, if there is room for it. What its kind does not read is kept as 0, a safe index. */
@@ -625,25 +623,26 @@ public final class BoxIntegrals {
                 if ((nodes >>> node & 1) == 0) {
                     continue;
                 }
-                if (kinds[node] == DRAWN) {
-                    int side = place + firsts[node];
-                    setEnds(node, sideLows[side], sideHighs[side]);
-                } else if (kinds[node] == NUMBER) {
+                int kind = kinds[node];
+                int a = firsts[node];
+                int b = seconds[node];
+                if (kind == DRAWN) {
+                    setEnds(node, sideLows[place + a], sideHighs[place + a]);
+                } else if (kind == NUMBER) {
                     setEnds(node, numbers[node], numbers[node]);
+                } else if (takesEndsAsTheyAre(kind)) {
+                    setEnds(node, work(kind, lows[a], lows[b]), work(kind, highs[a], highs[b]));
                 } else {
-                    encloseOne(node);
+                    encloseOutward(node, kind, a, b);
                 }
             }
         }
 
-        private void encloseOne(int node) {
-            int a = firsts[node];
-            int b = seconds[node];
+        private void encloseOutward(int node, int kind, int a, int b) {
             long al = lows[a];
             long ah = highs[a];
             long bl = lows[b];
             long bh = highs[b];
-            int kind = kinds[node];
             switch (kind) {
                 case SUM:
                     setOutward(node, Numbers.add(al, bl), Numbers.add(ah, bh));
@@ -667,18 +666,19 @@ public final class BoxIntegrals {
                     setEnds(node, lowAbsolute(al, ah), highAbsolute(al, ah));
                     break;
                 case ROOT:
-                    encloseRoot(node, al, ah);
+                    if (Numbers.below(al, Numbers.ZERO)) {
+                        setWholeLine(node);
+                        break;
+                    }
+                    setOutwardNotNegative(node, Numbers.root(al), Numbers.root(ah));
                     break;
                 case SQUARE:
                     long l = lowAbsolute(al, ah);
                     long h = highAbsolute(al, ah);
                     setOutwardNotNegative(node, Numbers.multiply(l, l), Numbers.multiply(h, h));
                     break;
-                case NEGATIVE:
-                    setEnds(node, Numbers.negate(ah), Numbers.negate(al));
-                    break;
                 default:
-                    setEnds(node, work(kind, al, bl), work(kind, ah, bh));
+                    setEnds(node, Numbers.negate(ah), Numbers.negate(al));
                     break;
             }
         }
@@ -699,18 +699,10 @@ public final class BoxIntegrals {
                     : Numbers.negate(al);
         }
 
-        private void encloseRoot(int node, long al, long ah) {
-            if (Numbers.below(al, Numbers.ZERO)) {
-                setWholeLine(node);
-                return;
-            }
-            setOutwardNotNegative(node, Numbers.root(al), Numbers.root(ah));
-        }
-
         private void setOutwardOfFour(int node, long p, long q, long r, long s) {
             long least = Numbers.least(Numbers.least(p, q), Numbers.least(r, s));
             long greatest = Numbers.greatest(Numbers.greatest(p, q), Numbers.greatest(r, s));
-            setOutward(node, least, greatest);
+            setEnds(node, Numbers.down(least), Numbers.up(greatest));
         }
 
         private void setOutward(int node, long low, long high) {
@@ -758,6 +750,8 @@ public final class BoxIntegrals {
 
         private static final int FRACTION_BITS = 52;
         private static final long HIDDEN = 1L << FRACTION_BITS;
+        /** The bits of a long above the hidden bit. */
+        private static final int ABOVE_HIDDEN = 11;
         private static final int EXPONENT_MASK = 0x7FF;
         private static final int EXPONENT_BIAS = 1023;
         /** The exponent of the last bit of a significand is the exponent's field less this. */
@@ -867,10 +861,8 @@ public final class BoxIntegrals {
                 return x & y;
             }
             boolean inTurn = (x & MAGNITUDE) >= (y & MAGNITUDE);
-            return addSmaller(inTurn ? x : y, inTurn ? y : x);
-        }
-
-        private static long addSmaller(long big, long small) {
+            long big = inTurn ? x : y;
+            long small = inTurn ? y : x;
             // one spare bit less than elsewhere, as the sum may need one bit more
             int spare = SPARE - 1;
             int exponent = exponent(big);
@@ -915,6 +907,7 @@ public final class BoxIntegrals {
             if (isZero(x) || isInfinite(y)) {
                 return withSign(negative, ZERO);
             }
+            // y is no zero here, so that its full significand is none either
             long divisor = full(y);
             long quotient = full(x) / divisor;
             long rest = full(x) % divisor;
@@ -999,7 +992,7 @@ public final class BoxIntegrals {
             if (drop > FRACTION_BITS + 2) {
                 return withSign(x < 0, ZERO);
             }
-            long kept = shiftToEven(significand(x), drop);
+            long kept = nearestOnShift(significand(x), drop);
             if (kept == 0) {
                 return withSign(x < 0, ZERO);
             }
@@ -1011,35 +1004,29 @@ public final class BoxIntegrals {
             return negative ? magnitude | MINUS : magnitude;
         }
 
-        private static int exponentField(long x) {
-            return (int) (x >>> FRACTION_BITS) & EXPONENT_MASK;
-        }
-
         /** How many of the fraction's bits stand before the point; below 0 for less than 1.0. */
         private static int wholeBits(long x) {
-            return exponentField(x) - EXPONENT_BIAS;
+            return ((int) (x >>> FRACTION_BITS) & EXPONENT_MASK) - EXPONENT_BIAS;
         }
 
         private static int exponent(long x) {
-            return Math.max(exponentField(x), 1) - LAST_BIT_BIAS;
+            int field = (int) (x >>> FRACTION_BITS) & EXPONENT_MASK;
+            return (field == 0 ? 1 : field) - LAST_BIT_BIAS;
         }
 
         private static long significand(long x) {
             long fraction = x & HIDDEN - 1;
-            return exponentField(x) == 0 ? fraction : fraction | HIDDEN;
+            return (x & MAGNITUDE) < HIDDEN ? fraction : fraction | HIDDEN;
         }
 
-        /** How far a significand goes up to have all 53 bits. */
-        private static int lift(long x) {
-            return Long.numberOfLeadingZeros(significand(x)) - 11;
-        }
-
+        /** The significand, put up to all its 53 bits if the number (not a zero) is subnormal. */
         private static long full(long x) {
-            return significand(x) << lift(x);
+            long m = significand(x);
+            return m << Long.numberOfLeadingZeros(m) - ABOVE_HIDDEN;
         }
 
         private static int fullExponent(long x) {
-            return exponent(x) - lift(x);
+            return exponent(x) - (Long.numberOfLeadingZeros(significand(x)) - ABOVE_HIDDEN);
         }
 
         /** Shifts right; what falls off leaves a last bit 1, so that later rounding knows of it. */
@@ -1055,12 +1042,9 @@ public final class BoxIntegrals {
         }
 
         /** Shifts right by 1 to 62 to the nearest, of two as near to the even one. */
-        private static long shiftToEven(long m, int by) {
-            long half = 1L << by - 1;
-            long lost = m & half * 2 - 1;
-            long kept = m >>> by;
-            boolean more = lost > half || lost == half && (kept & 1) == 1;
-            return more ? kept + 1 : kept;
+        private static long nearestOnShift(long m, int by) {
+            long even = m >>> by & 1;
+            return m + (1L << by - 1) - 1 + even >>> by;
         }
 
         /** The number nearest to m times two to the exponent, for an m above 0. */
@@ -1076,7 +1060,7 @@ public final class BoxIntegrals {
                 field = 1;
             }
             // adding lets the hidden bit, and a carry out of the fraction, step the exponent
-            long magnitude = ((long) (field - 1) << FRACTION_BITS) + shiftToEven(high, SPARE);
+            long magnitude = ((long) (field - 1) << FRACTION_BITS) + nearestOnShift(high, SPARE);
             return withSign(negative, magnitude);
         }
     }

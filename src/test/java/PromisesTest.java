@@ -629,9 +629,7 @@ public final class PromisesTest {
         BoxIntegrals x = drawn(0.0, 1.0);
         due("odds without a run", x.odds(1), 0);
         x.begin();
-        double low = down(down(1.0));
-        low = down(low);
-        double high = up(up(up(1.0)));
+        double low = down(down(down(1.0)));
         dueNumber("low odds of yes alone", x.odds(0), down(low / up(up(low))));
         dueNumber("high odds of yes alone", x.odds(1), 1.0);
         due("odds end 2", x.odds(2), 0);
@@ -659,7 +657,6 @@ public final class PromisesTest {
         dueNumber("low odds by masses", x.odds(0), down(y / up(up(y + n) + o)));
         double some = up(Double.longBitsToDouble(x.mass(1, 1)) + o);
         dueNumber("high odds by masses", x.odds(1), up(some / down(some + Double.longBitsToDouble(x.mass(2, 0)))));
-        due("high is above low", high > low ? 1 : 0, 1);
     }
 
     private static void share() {
@@ -676,7 +673,7 @@ public final class PromisesTest {
         x.begin();
         due("one of one", x.share(3), 1);
         due("none of one", x.share(1), 0);
-        x.run(9);
+        x.run(10);
         int[] seen = new int[4];
         for (int box = 0; box < x.boxes(); box++) {
             seen[x.kind(box)]++;
@@ -684,7 +681,7 @@ public final class PromisesTest {
         for (int kind = 0; kind <= 3; kind++) {
             due("share of " + kind, x.share(kind), seen[kind] / seen[3]);
         }
-        due("cut, not rounded", seen[1] / seen[3] * seen[3] + seen[1] % seen[3], seen[1]);
+        due("one of these is cut", (seen[1] + seen[2]) % seen[3], 1);
     }
 
     private static void count() {
