@@ -6,6 +6,7 @@ import java.nio.file.Files;
 import java.nio.file.Path;
 import java.util.Arrays;
 import java.util.List;
+import java.util.Map;
 import java.util.Set;
 import java.util.TreeSet;
 import java.util.regex.Matcher;
@@ -19,9 +20,20 @@ public final class FaceTest {
             "long weight(int,int)", "long enclosed(int,int,int)", "long value(int,long,long,long)",
             "int within(int,int,long,long,long)", "int where(long,long,long)", "long mass(int,int)", "long odds(int)",
             "int share(int) throws ArithmeticException", "int count(int)", "int clear()"));
-    private static final Set<String> CALLS_OF_THE_LIBRARY = Set.of("Math.max", "Long.numberOfLeadingZeros");
-    private static final List<String> RULED_OUT = List.of("double", "float", "Double", "Float", "StrictMath", "->", "::",
-            "try", "catch", "finally", "import", "package", "synchronized", "assert", "System", "Exact", "protected");
+    /** What no file that keeps to LANGUAGE.md has, by the rule's number. */
+    private static final Map<String, String> RULED_OUT = Map.ofEntries(
+            Map.entry("\\b(package|protected)\\b", "rule 1"),
+            Map.entry("::", "rule 2, method reference"),
+            Map.entry("->", "rule 2, lambda"),
+            Map.entry("\\b(Double|Float|StrictMath|BigDecimal|BigInteger)\\b", "rule 4"),
+            Map.entry("\\bMath\\.(?!(max|min|abs|floorDiv|floorMod|multiplyHigh|multiplyFull)\\b)\\w+", "rule 4, Math over int and long"),
+            Map.entry("\\w+Exact\\b", "rule 4, Exact"),
+            Map.entry("\\bSystem\\.(?!arraycopy\\b)", "rule 4, System"),
+            Map.entry("\\bstatic\\s*\\{", "rule 5, static block"),
+            Map.entry("\\b(finally|synchronized|assert)\\b", "rule 6"),
+            Map.entry("\\bcatch\\s*\\([^)]*\\b(Throwable|Error|Exception|ArrayIndexOutOfBoundsException|NullPointerException"
+                    + "|ClassCastException|NegativeArraySizeException|ArrayStoreException)\\b", "rule 6, catch"),
+            Map.entry("\\b(hashCode|getMessage)\\s*\\(\\s*\\)", "rule 6, of objects"));
 
     private static int wrong = 0;
 
@@ -107,14 +119,10 @@ public final class FaceTest {
     private static void words() throws Exception {
         String text = Files.readString(Path.of("src/main/java/BoxIntegrals.java"));
         String code = text.replaceAll("(?s)/\\*.*?\\*/", " ").replaceAll("//[^\n]*", " ").replaceAll("\"[^\"\n]*\"", "\"\"");
-        for (String word : RULED_OUT) {
-            boolean letters = Character.isLetter(word.charAt(0));
-            String pattern = letters ? "\\b" + word + "\\b" : Pattern.quote(word);
-            check(!Pattern.compile(pattern).matcher(code).find(), "ruled out: " + word);
-        }
-        Matcher calls = Pattern.compile("\\b(Math|Long|Integer|Arrays|String)\\.\\w+").matcher(code);
-        while (calls.find()) {
-            check(CALLS_OF_THE_LIBRARY.contains(calls.group()), "of the library: " + calls.group());
+        code = code.replaceAll("(?s)\\b(case\\b[^:;{}]*?|default\\s*)->", " ");
+        for (Map.Entry<String, String> one : RULED_OUT.entrySet()) {
+            Matcher found = Pattern.compile(one.getKey()).matcher(code);
+            check(!found.find(), "LANGUAGE.md, " + one.getValue() + ", against " + one.getKey());
         }
     }
 }
