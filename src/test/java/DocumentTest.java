@@ -13,8 +13,8 @@ import java.util.Map;
  */
 public final class DocumentTest {
     private static final Path DOCUMENT = Path.of("../shared/DOC.md");
-    private static final List<Class<? extends SentenceTests>> TESTS = List.of(WhatItIsTest.class, TermsTest.class,
-            EnclosuresTest.class, RunsTest.class, RefusalsTest.class, PromisesTest.class);
+    private static final List<Class<? extends SentenceTests>> TESTS = List.of(WhatItIsTest.class,
+            NumbersTest.class, TermsTest.class, EnclosuresTest.class, RunsTest.class, RefusalsTest.class, PromisesTest.class);
     /** FaceTest has the one, and of the other nothing is promised. */
     private static final List<String> WITHOUT_SENTENCES = List.of("The public face", "Not promised");
 

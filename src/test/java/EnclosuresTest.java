@@ -247,6 +247,7 @@ public final class EnclosuresTest extends SentenceTests {
         dueEndsOfOne(8, -3.0, 2.0, 0.0, 3.0);
         dueEndsOfOne(8, -2.0, 3.0, 0.0, 3.0);
         dueEndsOfOne(8, -2.0, 2.0, 0.0, 2.0);
+        dueEndsOfOne(8, -0.25, 0.5, 0.0, 0.5);
         dueEndsOfOne(8, -MIN, MIN, 0.0, MIN);
         dueEndsOfOne(8, -INF, 1.0, 0.0, INF);
         dueEndsOfOne(8, -INF, INF, 0.0, INF);

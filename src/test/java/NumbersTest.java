@@ -1,48 +1,56 @@
 /** Every kind of node at points of edge and pseudo-random BITS, against the machine's own doubles. */
-public final class NumbersTest {
+public final class NumbersTest extends SentenceTests {
+    private static final String PLACE = "What it is";
+    private static final String SENTENCE = "1 NUMBERS are doubles, worked as the machine works them,";
     private static final int ROUNDS = 400_000;
     private static final int CALLS = 480;
 
     private static long seed = 20261116L;
-    private static int wrong = 0;
     private static int used = CALLS;
     private static BoxIntegrals x;
 
-    public static void main(String[] args) {
-        long[] edges = edges();
-        for (long a : edges) {
-            for (long b : edges) {
-                checkAll(a, b);
-            }
-        }
-        for (int i = 0; i < ROUNDS; i++) {
-            long a = bits();
-            checkAll(a, near(a));
-        }
-        System.out.println(wrong == 0 ? "numbers are worked as the machine works them" : wrong + " wrong");
-        if (wrong != 0) {
-            System.exit(1);
-        }
+    public static void main(String[] args) throws Exception {
+        runAll(NumbersTest.class);
     }
 
-    private static void checkAll(long a, long b) {
+    @Sentence(in = PLACE, says = SENTENCE)
+    static void edgesAreWorkedAsTheMachineWorksThem() {
+        long[] edges = edges();
+        int wrong = 0;
+        for (long a : edges) {
+            for (long b : edges) {
+                wrong += wrongOf(a, b);
+            }
+        }
+        due("how many are wrong", wrong, 0);
+    }
+
+    @Sentence(in = PLACE, says = SENTENCE)
+    static void pseudoRandomNumbersAreWorkedAsTheMachineWorksThem() {
+        int wrong = 0;
+        for (int i = 0; i < ROUNDS; i++) {
+            long a = bits();
+            wrong += wrongOf(a, near(a));
+        }
+        due("how many are wrong", wrong, 0);
+    }
+
+    private static int wrongOf(long a, long b) {
+        int wrong = 0;
         for (int kind = 0; kind <= 16; kind++) {
             if (kind == 1) {
                 continue;
             }
             freshWhenUsedUp();
-            int node = kind == 0 ? 0 : kind;
-            long got = x.value(node, a, b, 0L);
+            long got = x.value(kind, a, b, 0L);
             used++;
-            double due = machine(kind, Double.longBitsToDouble(a), Double.longBitsToDouble(b));
-            if (got != Double.doubleToLongBits(due)) {
+            long due = b(machine(kind, d(a), d(b)));
+            if (got != due) {
                 wrong++;
-                if (wrong < 50) {
-                    System.out.println("kind " + kind + " of " + a + ", " + b + " answered " + got
-                            + ", due is " + Double.doubleToLongBits(due));
-                }
+                due("kind " + kind + " of " + a + ", " + b, got, due);
             }
         }
+        return wrong;
     }
 
     private static void freshWhenUsedUp() {

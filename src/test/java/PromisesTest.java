@@ -271,6 +271,16 @@ public final class PromisesTest extends SentenceTests {
         BoxIntegrals y = full();
         y.begin();
         due("after a full run", y.run(99), 99);
+        BoxIntegrals z = drawn(0.0, 1.0);
+        z.role(1, unsure(z));
+        z.role(2, number(z, 1000.0));
+        z.begin();
+        z.run(9);
+        z.role(2, NONE);
+        z.begin();
+        z.run(3);
+        dueSide("boxes of an earlier run that were heavier", z, 0, 0, 0.0, 0.25);
+        dueSide("boxes of an earlier run that were heavier", z, 3, 0, 0.75, 1.0);
     }
 
     @Sentence(in = "Promise 5", says = "how many DRAWS it has.")
@@ -333,6 +343,7 @@ public final class PromisesTest extends SentenceTests {
         dueTrue("until all are sure or tight, after " + steps + " steps", steps > 0 && steps < 99);
         due("boxes", z.boxes(), steps + 1);
         due("no more", z.run(99), 0);
+        due("one is tight", z.count(4), 1);
     }
 
     @Sentence(in = "Promise 6", says = "and no more than 100 BOXES come:")
@@ -594,6 +605,8 @@ public final class PromisesTest extends SentenceTests {
         x.run(1);
         due("an edge is in both", x.within(0, 0, b(0.5), b(-3.0), 0L), 2);
         due("an edge is in both", x.within(1, 0, b(0.5), b(-3.0), 0L), 2);
+        due("an enclosure over the lower half", x.within(0, 1, b(0.5), b(-3.5), 0L), 2);
+        due("an enclosure over the upper half", x.within(1, 1, b(0.5), b(-2.5), 0L), 2);
         BoxIntegrals y = openRun(-1.0, -0.0);
         due("0.0 is up to -0.0", y.within(0, 0, b(0.0), 0L, 0L), 2);
         int magnitude = y.node(8, 0, 0, 0L);
@@ -842,6 +855,12 @@ public final class PromisesTest extends SentenceTests {
         BoxIntegrals z = drawn(1.0, up(1.0));
         z.begin();
         due("tight, but not open", z.count(4), 0);
+        BoxIntegrals w = drawn(1.0, 1.0 + 4 * Math.ulp(1.0));
+        w.role(0, w.node(3, 0, number(w, up(up(1.0))), 0L));
+        w.begin();
+        w.run(9);
+        due("out", w.kind(0), OUT);
+        dueTrue("tight ones behind it", w.count(4) > 0);
     }
 
     @Sentence(in = "Promise 18", says = "OUTSIDE.")

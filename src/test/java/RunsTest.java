@@ -330,6 +330,15 @@ public final class RunsTest extends SentenceTests {
         BoxIntegrals z = openRun(-5.0, -4.0, -3.0, -1.0);
         z.run(1);
         dueSide("of sides below 0", z, 0, 1, -3.0, -2.0);
+        BoxIntegrals w = drawn(-4.0, 4.0, 0.0, 3.0);
+        w.role(1, w.node(3, 0, number(w, 1.0), 0L));
+        w.begin();
+        w.run(3);
+        dueSide("a box that is not open", w, 0, 1, 0.0, 3.0);
+        dueSide("an open one, split by draw 1", w, 1, 1, 0.0, 1.5);
+        w.run(1);
+        dueSide("then by draw 0, its own widest", w, 1, 0, 0.0, 1.0);
+        dueSide("then by draw 0, its own widest", w, 1, 1, 0.0, 1.5);
     }
 
     @Sentence(in = PLACE, says = "(the least DRAW of several)")
