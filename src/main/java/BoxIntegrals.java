@@ -439,7 +439,7 @@ public final class BoxIntegrals {
             return heaviest;
         }
 
-        /** Splits a box, if there is room for one more, and tells the new one; both are to be settled. */
+        /** Splits a box and tells the new one, for which there is room; both are to be settled then. */
         int split(int box) {
             int other = size;
             for (int draw = 0; draw < sides; draw++) {
@@ -537,7 +537,7 @@ public final class BoxIntegrals {
             return kind == LEAST || kind == GREATEST || kind == FLOOR || kind >= AS_FLOAT;
         }
 
-        /** Adds a node, if there is room for it. What its kind does not read is kept as 0, a safe index. */
+        /** Adds a node, for which there is room. What its kind does not read is kept as 0, a safe index. */
         int append(int kind, int a, int b, long bits) {
             int node = size;
             kinds[node] = kind;

@@ -2,17 +2,12 @@ import java.lang.reflect.Constructor;
 import java.lang.reflect.Field;
 import java.lang.reflect.Method;
 import java.lang.reflect.Modifier;
-import java.nio.file.Files;
-import java.nio.file.Path;
 import java.util.Arrays;
 import java.util.List;
-import java.util.Map;
 import java.util.Set;
 import java.util.TreeSet;
-import java.util.regex.Matcher;
-import java.util.regex.Pattern;
 
-/** The face as the document has it, and what of LANGUAGE.md a reader of text and classes can see. */
+/** The face as the document has it; what LANGUAGE.md rules out is for LanguageTest. */
 public final class FaceTest {
     private static final Set<String> FACE = new TreeSet<>(List.of(
             "int draw(long,long)", "int node(int,int,int,long)", "int role(int,int)", "int begin()", "int run(int)",
@@ -20,28 +15,12 @@ public final class FaceTest {
             "long weight(int,int)", "long enclosed(int,int,int)", "long value(int,long,long,long)",
             "int within(int,int,long,long,long)", "int where(long,long,long)", "long mass(int,int)", "long odds(int)",
             "int share(int) throws ArithmeticException", "int count(int)", "int clear()"));
-    /** What no file that keeps to LANGUAGE.md has, by the rule's number. */
-    private static final Map<String, String> RULED_OUT = Map.ofEntries(
-            Map.entry("\\b(package|protected)\\b", "rule 1"),
-            Map.entry("::", "rule 2, method reference"),
-            Map.entry("->", "rule 2, lambda"),
-            Map.entry("\\b(Double|Float|StrictMath|BigDecimal|BigInteger)\\b", "rule 4"),
-            Map.entry("\\bMath\\.(?!(max|min|abs|floorDiv|floorMod|multiplyHigh|multiplyFull)\\b)\\w+", "rule 4, Math over int and long"),
-            Map.entry("\\w+Exact\\b", "rule 4, Exact"),
-            Map.entry("\\bSystem\\.(?!arraycopy\\b)", "rule 4, System"),
-            Map.entry("\\bstatic\\s*\\{", "rule 5, static block"),
-            Map.entry("\\b(finally|synchronized|assert)\\b", "rule 6"),
-            Map.entry("\\bcatch\\s*\\([^)]*\\b(Throwable|Error|Exception|ArrayIndexOutOfBoundsException|NullPointerException"
-                    + "|ClassCastException|NegativeArraySizeException|ArrayStoreException)\\b", "rule 6, catch"),
-            Map.entry("\\b(hashCode|getMessage)\\s*\\(\\s*\\)", "rule 6, of objects"));
 
     private static int wrong = 0;
 
     public static void main(String[] args) throws Exception {
         members();
         constants();
-        nestedClasses();
-        words();
         System.out.println(wrong == 0 ? "the face is the document's" : wrong + " faults of the face");
         if (wrong != 0) {
             System.exit(1);
@@ -101,28 +80,5 @@ public final class FaceTest {
         }
         Set<String> due = new TreeSet<>(List.of("UNKNOWN -1", "OUTSIDE -2", "STATE -3", "FULL -4", "NONE -5"));
         check(found.equals(due), "constants: " + found);
-    }
-
-    private static void nestedClasses() {
-        for (Class<?> inside : BoxIntegrals.class.getDeclaredClasses()) {
-            int is = inside.getModifiers();
-            check(Modifier.isStatic(is) && !Modifier.isPublic(is) && !Modifier.isProtected(is), inside + " is seen outside");
-            for (Field f : inside.getDeclaredFields()) {
-                check(!Modifier.isStatic(f.getModifiers()) || Modifier.isFinal(f.getModifiers()), f + " is state of the class");
-            }
-            for (Method m : inside.getDeclaredMethods()) {
-                check(m.getParameterCount() <= 7, m + " takes more than seven");
-            }
-        }
-    }
-
-    private static void words() throws Exception {
-        String text = Files.readString(Path.of("src/main/java/BoxIntegrals.java"));
-        String code = text.replaceAll("(?s)/\\*.*?\\*/", " ").replaceAll("//[^\n]*", " ").replaceAll("\"[^\"\n]*\"", "\"\"");
-        code = code.replaceAll("(?s)\\b(case\\b[^:;{}]*?|default\\s*)->", " ");
-        for (Map.Entry<String, String> one : RULED_OUT.entrySet()) {
-            Matcher found = Pattern.compile(one.getKey()).matcher(code);
-            check(!found.find(), "LANGUAGE.md, " + one.getValue() + ", against " + one.getKey());
-        }
     }
 }

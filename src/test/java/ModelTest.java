@@ -5,7 +5,7 @@ import java.util.List;
 /** Pseudo-random runs of calls, each answer against a plain model of the document in doubles. */
 public final class ModelTest {
     private static final int RUNS = 3000;
-    private static final int CALLS = 511;
+    private static final int CALLS = 512;
     private static final int SCENE = 128;
     private static final int CLEAR = -1;
 
